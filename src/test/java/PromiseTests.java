@@ -243,7 +243,7 @@ public final class PromiseTests {
 
     private static void capitalBeginsAnew() {
         Checks.part("4 capital, read anew");
-        ElbowRanks x = Checks.told("n4;b9;e3;l0 1 20;l2 3 20;p2 0;p1 1;p2 1;");
+        ElbowRanks x = Checks.told("n4;b9;e3;l0 1 20;l2 3 20;p1 0;p2 1;p2 1;");
         x.meets(0, 1, 0);
         x.shuts(1, 1);
         x.gate(0, 0);
@@ -268,6 +268,16 @@ public final class PromiseTests {
         due("the trace stays", x.trace(), 100001);
         due("a lane of before", x.lane(1, 0), BAD);
         due("a person of before", x.person(1, 0), BAD);
+        due("he did not give way", x.person(0, 3), 0);
+        // What the texts before the last told is gone as well.
+        Checks.type(x, "e2;");
+        due("items of the third", x.capital(), 1);
+        int[] then = {2, 0, 0, 4, 2, 0, 0, 0};
+        for (int what = 0; what < then.length; what++) {
+            due("then count " + what, x.count(what), then[what]);
+        }
+        due("items of an empty text", x.capital(), 0);
+        due("the error of none told", x.count(4), 1);
     }
 
     private static void lanes() {
