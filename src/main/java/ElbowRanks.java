@@ -676,7 +676,11 @@ public final class ElbowRanks {
             int items = 0;
             takeToken();
             while (items < MOST_BYTES && sort != END) {
-                if (!readItem(told, items == 0) || !isNext(SEMICOLON)) {
+                if (!readItem(told, items == 0)) {
+                    return -1;
+                }
+                takeToken();
+                if (sort != SEMICOLON) {
                     return -1;
                 }
                 items++;
@@ -745,59 +749,49 @@ public final class ElbowRanks {
             return true;
         }
 
-        private boolean isNext(int wanted) {
-            takeToken();
-            return sort == wanted;
-        }
-
         private boolean isNumber(int least, int greatest) {
-            return isNext(NUMBER) && value >= least && value <= greatest;
+            takeToken();
+            return sort == NUMBER && value >= least && value <= greatest;
         }
 
         private void takeToken() {
-            while (next < text.size && text.bytes[next] == BLANK) {
-                next++;
-            }
+            next = endOfRun(next, BLANK, BLANK);
             start = next;
-            if (next >= text.size) {
+            int letters = endOfRun(start, 'a', 'z') - start;
+            int digits = endOfRun(start, '0', '9') - start;
+            if (start >= text.size) {
                 sort = END;
-            } else if (isLetter(text.bytes[next])) {
-                takeLetters();
-            } else if (isDigit(text.bytes[next])) {
-                takeNumber();
+            } else if (letters > 0) {
+                // All that begins an ITEM is one letter long.
+                sort = letters == 1 ? LETTERS : NEITHER;
+                value = text.bytes[start];
+                next += letters;
+            } else if (digits > 0) {
+                takeNumber(digits);
             } else {
-                sort = text.bytes[next] == ';' ? SEMICOLON : NEITHER;
+                sort = text.bytes[start] == ';' ? SEMICOLON : NEITHER;
                 next++;
             }
         }
 
-        private void takeLetters() {
-            value = text.bytes[start];
-            while (next < text.size && isLetter(text.bytes[next])) {
-                next++;
-            }
-            // All that begins an ITEM is one letter long.
-            sort = next - start == 1 ? LETTERS : NEITHER;
-        }
-
-        private void takeNumber() {
+        private void takeNumber(int digits) {
+            boolean isWrong = digits > 2 || (digits == 2 && text.bytes[start] == '0');
+            sort = isWrong ? NEITHER : NUMBER;
             value = 0;
-            while (next < text.size && isDigit(text.bytes[next])) {
-                // What is too long to be a NUMBER may be any value: it is none.
+            for (int i = 0; i < digits; i++) {
+                // Nobody asks for the value of one that is too long.
                 value = value * 10 + text.bytes[next] - '0';
                 next++;
             }
-            int digits = next - start;
-            boolean isRight = digits == 1 || (digits == 2 && text.bytes[start] != '0');
-            sort = isRight ? NUMBER : NEITHER;
         }
 
-        private static boolean isLetter(int c) {
-            return c >= 'a' && c <= 'z';
-        }
-
-        private static boolean isDigit(int c) {
-            return c >= '0' && c <= '9';
+        /** Where the bytes from one of these to another end that stand side by side from here on. */
+        private int endOfRun(int from, int least, int greatest) {
+            int end = from;
+            while (end < text.size && text.bytes[end] >= least && text.bytes[end] <= greatest) {
+                end++;
+            }
+            return end;
         }
     }
 
