@@ -1,13 +1,15 @@
 /** Long runs of calls, made up by a fixed rule, on an object and on a Model of it: their answers are alike. */
 public final class ModelTests {
-    private static final int RUNS = 700, CALLS = 512, FAULTS_TOLD = 20;
-    private static final int CALL_KINDS = 29;
+    private static final int RUNS = 1000, CALLS = 512, FAULTS_TOLD = 20;
+    private static final int CALL_KINDS = 29, CALLS_OF_MARK = 2, CALLS_OF_ALL = 79;
     private static final int[] EXTREMES = {-1, -2, 5, 6, 8, 10, 11, 41, 100, 256, Integer.MIN_VALUE, Integer.MAX_VALUE};
 
     private long seed = 20261119;
     private ElbowRanks x;
     private Model model;
     private String run = "";
+    // Behind its 512th call nothing is promised of an object.
+    private int left = CALLS;
 
     public static void main(String[] args) {
         ModelTests tests = new ModelTests();
@@ -34,14 +36,13 @@ public final class ModelTests {
         Checks.part("run " + number);
         x = new ElbowRanks();
         model = new Model();
-        int left = CALLS;
-        left -= tell(any(6) == 0 ? spoilt(text()) : text());
-        while (left > 0) {
-            if (isOneIn(150)) {
-                left -= tell(isOneIn(2) ? spoilt(text()) : text());
+        left = CALLS;
+        tell(any(6) == 0 ? spoilt(text()) : text());
+        while (left >= CALLS_OF_MARK) {
+            if (isOneIn(100)) {
+                tellIfItFits(isOneIn(2) ? spoilt(text()) : text());
             } else {
-                ask(any(CALL_KINDS));
-                left--;
+                ask(any(left < CALLS_OF_ALL ? CALL_KINDS - 1 : CALL_KINDS));
             }
         }
     }
@@ -57,14 +58,20 @@ public final class ModelTests {
         Checks.due("ELBOWS of " + run, x.now(2), model.now(2));
     }
 
-    private int tell(String text) {
+    private void tellIfItFits(String text) {
+        if (text.length() + 2 <= left) {
+            tell(text);
+        }
+    }
+
+    private void tell(String text) {
         run = text;
+        left -= text.length() + 2;
         Checks.due("clear", x.clear(), model.clear());
         for (int i = 0; i < text.length(); i++) {
             Checks.due("type " + i + " of " + text, x.type(text.charAt(i)), model.type(text.charAt(i)));
         }
         Checks.due("capital of " + text, x.capital(), model.capital());
-        return text.length() + 2;
     }
 
     private String text() {
@@ -254,6 +261,7 @@ public final class ModelTests {
     }
 
     private void due(String call, long got, long want, int... with) {
+        left--;
         StringBuilder said = new StringBuilder(call).append('(');
         for (int i = 0; i < with.length; i++) {
             said.append(i == 0 ? "" : ", ").append(with[i]);
