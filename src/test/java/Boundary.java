@@ -4,12 +4,13 @@ import java.util.function.Consumer;
 import java.util.function.Supplier;
 
 /** What the tests of single sentences share. */
-final class Boundary {
+abstract class Boundary {
     static final int BAD = -1, STATE = -2, FULL = -3, NONE = -9, NO = -1000000;
     static final int LOW = Integer.MIN_VALUE, HIGH = Integer.MAX_VALUE;
 
     private static final int PROMISES = 29;
     private static final TreeSet<Integer> NAMED = new TreeSet<>();
+    private static final TreeSet<String> QUOTED = new TreeSet<>();
 
     /** A call with all its numbers. */
     interface Call {
@@ -21,19 +22,36 @@ final class Boundary {
         int on(ElbowRanks x, int number);
     }
 
-    private Boundary() {
+    static void due(String what, long got, long want) {
+        Checks.due(what, got, want);
     }
 
-    /** The checks from here on are of these words of the document, for this promise. */
+    /** The checks from here on are of these words of the document (... leaves some out), for this promise. */
     static void sentence(int promise, String words) {
         NAMED.add(promise);
+        QUOTED.addAll(Arrays.asList(words.split(" [.]{3} ")));
         Checks.part("Promise " + promise + ", \"" + words + "\"");
+    }
+
+    /** The same for one case that the words name. */
+    static void sentence(int promise, String words, String oneCase) {
+        sentence(promise, words);
+        Checks.part("Promise " + promise + ", \"" + words + "\", " + oneCase);
     }
 
     static void allPromisesAreNamed() {
         Checks.part("all promises");
         for (int promise = 1; promise <= PROMISES; promise++) {
             Checks.holds("promise " + promise + " has a sentence with a test", NAMED.contains(promise));
+        }
+    }
+
+    /** Where the document was worded anew, the tests of the sentence want another look. */
+    static void allWordsStandIn(String document) {
+        Checks.part("the document");
+        String plain = document.replace("`", "").replaceAll("\\s+", " ");
+        for (String words : QUOTED) {
+            Checks.holds("\"" + words + "\" stands there", plain.contains(words));
         }
     }
 
@@ -53,10 +71,10 @@ final class Boundary {
         return x;
     }
 
-    /** This call on the busy capital is answered so, and changes nothing. */
-    static void refused(String call, int answer, Call refused) {
-        Checks.due(call, refused.on(busy()), answer);
-        changesNothing(call, Boundary::busy, x -> refused.on(x));
+    /** This call on the busy capital is answered so, and all stays as it is. */
+    static void stays(String call, int answer, Call asked) {
+        due(call, asked.on(busy()), answer);
+        changesNothing(call, Boundary::busy, x -> asked.on(x));
     }
 
     /** The numbers from the least to the greatest are taken; others are BAD, and change nothing. */
@@ -73,7 +91,7 @@ final class Boundary {
             least + 32, least + 64, least + 256, least + 65536, HIGH};
         for (int number : others) {
             if (number < least || number > greatest) {
-                Checks.due(which + " " + number, call.on(made.get(), number), bad);
+                due(which + " " + number, call.on(made.get(), number), bad);
                 changesNothing(which + " " + number, made, x -> call.on(x, number));
             }
         }
@@ -92,16 +110,16 @@ final class Boundary {
             String back = calls + ", then back " + image;
             x = doOthers(after(made, done));
             y = doOthers(made.get());
-            Checks.due(back, x.back(image), y.back(image));
+            due(back, x.back(image), y.back(image));
             sameMoment(back, x, y);
             sameSteps(back, x, y);
         }
         x = after(made, done);
         y = made.get();
         for (int round = 0; round < 2; round++) {
-            Checks.due(calls + ", then read", x.capital(), y.capital());
+            due(calls + ", then read", x.capital(), y.capital());
             sameAll(calls + ", then read", x, y);
-            Checks.due(calls + ", then ended", x.type(';'), y.type(';'));
+            due(calls + ", then ended", x.type(';'), y.type(';'));
         }
     }
 
@@ -115,7 +133,7 @@ final class Boundary {
         int left = 0;
         for (int step = 0; step <= 10 && left != STATE; step++) {
             left = y.undo();
-            Checks.due(after + " undone", x.undo(), left);
+            due(after + " undone", x.undo(), left);
             sameMoment(after + " undone", x, y);
         }
     }
@@ -129,38 +147,38 @@ final class Boundary {
     }
 
     private static void sameMoment(String after, ElbowRanks x, ElbowRanks y) {
-        Checks.due(after + ": closed", x.now(0), y.now(0));
+        due(after + ": closed", x.now(0), y.now(0));
         int people = y.count(2);
         for (int p = 0; p < people; p++) {
-            Checks.due(after + ": elbow of " + p, x.person(p, 0), y.person(p, 0));
-            Checks.due(after + ": where " + p + " is", x.person(p, 1), y.person(p, 1));
-            Checks.due(after + ": how often " + p + " gave way", x.person(p, 3), y.person(p, 3));
+            due(after + ": elbow of " + p, x.person(p, 0), y.person(p, 0));
+            due(after + ": where " + p + " is", x.person(p, 1), y.person(p, 1));
+            due(after + ": how often " + p + " gave way", x.person(p, 3), y.person(p, 3));
         }
     }
 
     private static void sameAll(String after, ElbowRanks x, ElbowRanks y) {
         sameMoment(after, x, y);
         for (int what = 0; what < 8; what++) {
-            Checks.due(after + ": count " + what, x.count(what), y.count(what));
+            due(after + ": count " + what, x.count(what), y.count(what));
         }
         int lanes = y.count(1);
         for (int l = 0; l < lanes; l++) {
             for (int what = 0; what < 4; what++) {
-                Checks.due(after + ": lane " + l + " " + what, x.lane(l, what), y.lane(l, what));
+                due(after + ": lane " + l + " " + what, x.lane(l, what), y.lane(l, what));
             }
         }
         int people = y.count(2);
         for (int p = 0; p < people; p++) {
-            Checks.due(after + ": wide " + p, x.person(p, 2), y.person(p, 2));
-            Checks.due(after + ": fits " + p, x.fits(p), y.fits(p));
+            due(after + ": wide " + p, x.person(p, 2), y.person(p, 2));
+            due(after + ": fits " + p, x.fits(p), y.fits(p));
         }
-        Checks.due(after + ": trace", x.trace(), y.trace());
+        due(after + ": trace", x.trace(), y.trace());
     }
 
     /** What count() answers to 0, 1, 2 .. */
     static void counts(String when, ElbowRanks x, int... due) {
         for (int what = 0; what < due.length; what++) {
-            Checks.due(when + ": count " + what, x.count(what), due[what]);
+            due(when + ": count " + what, x.count(what), due[what]);
         }
     }
 

@@ -1,6 +1,10 @@
+import java.io.IOException;
+import java.nio.file.Files;
+import java.nio.file.Path;
+
 /** One test for each sentence of the document that names a boundary; each names its promise. */
 public final class BoundaryTests {
-    public static void main(String[] args) {
+    public static void main(String[] args) throws IOException {
         theBusyCapital();
         TextBoundaries.all();
         CapitalBoundaries.all();
@@ -10,6 +14,10 @@ public final class BoundaryTests {
         GateBoundaries.all();
         KindBoundaries.all();
         Boundary.allPromisesAreNamed();
+        Path document = Path.of("../shared/DOC.md");
+        if (Files.exists(document)) {
+            Boundary.allWordsStandIn(Files.readString(document));
+        }
         Checks.end();
     }
 

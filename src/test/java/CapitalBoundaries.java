@@ -1,6 +1,5 @@
 /** Promises 1, 4 to 6: what there is, at first and read anew, LANES and PEOPLE. */
-final class CapitalBoundaries {
-    private static final int BAD = Boundary.BAD, STATE = Boundary.STATE;
+final class CapitalBoundaries extends Boundary {
     private static final String EIGHT_LANES =
             "n8;l7 0 1;l0 7 40;l1 2 2;l2 1 39;l3 4 3;l4 5 4;l5 6 5;l6 7 6;";
     private static final String FIVE_PEOPLE = "n8;p0 7;p9 0;p1 6;p8 1;p5 5;";
@@ -27,18 +26,11 @@ final class CapitalBoundaries {
         reachByWidth();
         reachOfAll();
         reachByOpenLanes();
-    }
-
-    private static void due(String what, long got, long want) {
-        Checks.due(what, got, want);
-    }
-
-    private static void sentence(int promise, String words) {
-        Boundary.sentence(promise, words);
+        nothingIsChanged();
     }
 
     private static void theConstants() {
-        sentence(1, "BAD = -1, STATE = -2, FULL = -3, NONE = -9 .. NO = -1000000");
+        sentence(1, "BAD = -1, STATE = -2, FULL = -3, NONE = -9 ... NO = -1000000");
         due("BAD", ElbowRanks.BAD, -1);
         due("STATE", ElbowRanks.STATE, -2);
         due("FULL", ElbowRanks.FULL, -3);
@@ -61,8 +53,8 @@ final class CapitalBoundaries {
     }
 
     private static void atFirst() {
-        sentence(1, "(.. 4 at first) .. (.. 1 at first) .. THE TRACE (0 at first");
-        Boundary.counts("at first", new ElbowRanks(), 2, 0, 0, 4, 1, 0, 0, 0);
+        sentence(1, "BODY (1 .. 9 inches; 4 at first) ... ERROR (0 .. 3 inches; 1 at first) ... THE TRACE (0 at first");
+        counts("at first", new ElbowRanks(), 2, 0, 0, 4, 1, 0, 0, 0);
         ElbowRanks x = new ElbowRanks();
         due("trace", x.trace(), 0);
         for (int what = 0; what < 4; what++) {
@@ -73,15 +65,15 @@ final class CapitalBoundaries {
         due("no image 1", x.back(1), STATE);
         due("nothing measured", x.forget(), 0);
         due("no text", x.clear(), 0);
-        Boundary.changesNothing("an empty text", ElbowRanks::new, y -> y.capital());
+        changesNothing("an empty text", ElbowRanks::new, y -> y.capital());
     }
 
     private static void readAnew() {
-        sentence(4, "Read anew: as told (what is not told as at first), all open, nothing measured or to be UNDONE, "
-                + "IMAGES are gone");
+        sentence(4, "Read anew: as told (what is not told as at first), all open, nothing measured or to be "
+                + "UNDONE, IMAGES are gone");
         String[] texts = {"", "n4;", "l0 1 40;p5 0;", "b9;", "e3;", "n3;l2 1 7;l0 1 8;p0 2;p9 1;b2;e0;"};
         for (String text : texts) {
-            ElbowRanks x = Boundary.busy();
+            ElbowRanks x = busy();
             x.keep(1);
             x.clear();
             Checks.type(x, text);
@@ -109,26 +101,26 @@ final class CapitalBoundaries {
         for (int often = 0; often < 4; often++) {
             Checks.type(x, "n7;b9;e3;l5 6 9;p9 6;");
             due("told", x.capital(), 5);
-            Boundary.counts("told", x, 7, 1, 1, 9, 3, 0, 0, 0);
+            counts("told", x, 7, 1, 1, 9, 3, 0, 0, 0);
         }
         for (int often = 0; often < 3; often++) {
             due("nothing told", x.capital(), 0);
-            Boundary.counts("nothing told", x, 2, 0, 0, 4, 1, 0, 0, 0);
+            counts("nothing told", x, 2, 0, 0, 4, 1, 0, 0, 0);
         }
         Checks.type(x, "n7;b9;e3;l5 6 9;p9 6;?");
         due("told in vain", x.capital(), -10 - 21);
-        Boundary.counts("told in vain", x, 2, 0, 0, 4, 1, 0, 0, 22);
+        counts("told in vain", x, 2, 0, 0, 4, 1, 0, 0, 22);
         x.clear();
         Checks.type(x, "p0 1;");
         due("one told", x.capital(), 1);
-        Boundary.counts("one told", x, 2, 0, 1, 4, 1, 0, 0, 0);
+        counts("one told", x, 2, 0, 1, 4, 1, 0, 0, 0);
         Checks.type(x, "l0 6 9;");
         due("a place of before", x.capital(), -10 - 3);
     }
 
     private static void theTraceStays() {
         sentence(4, "THE TRACE stays");
-        ElbowRanks x = Boundary.busy();
+        ElbowRanks x = busy();
         due("ahead", x.trace(), 11);
         x.type(';');
         due("read", x.capital(), 1);
@@ -138,8 +130,8 @@ final class CapitalBoundaries {
     // ---- LANES
 
     private static void lanesThereAre() {
-        sentence(5, "LANES 0 .. (8 of them at most) .. BAD (.. there is no such thing)");
-        Boundary.range("lane", 0, 2, (x, l) -> x.lane(l, 0));
+        sentence(5, "LANES 0 .. (8 of them at most) ... BAD ... there is no such thing");
+        range("lane", 0, 2, (x, l) -> x.lane(l, 0));
         ElbowRanks x = Checks.told(EIGHT_LANES);
         due("the eighth", x.lane(7, 2), 6);
         due("a ninth", x.lane(8, 2), BAD);
@@ -147,8 +139,8 @@ final class CapitalBoundaries {
     }
 
     private static void whatOfALane() {
-        sentence(5, "0, 1 its PLACES .., 2 WIDTH, 3 whether it is CLOSED (1, 0). BAD.");
-        Boundary.range("what", 0, 3, (x, what) -> x.lane(0, what));
+        sentence(5, "0, 1 its PLACES as told, 2 WIDTH, 3 whether it is CLOSED (1, 0). BAD.");
+        range("what", 0, 3, (x, what) -> x.lane(0, what));
     }
 
     private static void placesAsTold() {
@@ -180,8 +172,8 @@ final class CapitalBoundaries {
     // ---- PEOPLE
 
     private static void peopleThereAre() {
-        sentence(6, "PEOPLE 0 .. (5 of them at most) .. BAD (.. there is no such thing)");
-        Boundary.range("person", 0, 3, (x, p) -> x.person(p, 0));
+        sentence(6, "PEOPLE 0 .. (5 of them at most) ... BAD ... there is no such thing");
+        range("person", 0, 3, (x, p) -> x.person(p, 0));
         ElbowRanks x = Checks.told(FIVE_PEOPLE);
         due("the fifth", x.person(4, 1), 5);
         due("a sixth", x.person(5, 1), BAD);
@@ -190,7 +182,7 @@ final class CapitalBoundaries {
 
     private static void whatOfAPerson() {
         sentence(6, "0 ELBOW, 1 where he is, 2 how WIDE, 3 how often he GAVE WAY, 4 REACH (bits). BAD.");
-        Boundary.range("what", 0, 4, (x, what) -> x.person(0, what));
+        range("what", 0, 4, (x, what) -> x.person(0, what));
         ElbowRanks x = Checks.told(FIVE_PEOPLE);
         due("the least elbow", x.person(0, 0), 0);
         due("the greatest elbow", x.person(1, 0), 9);
@@ -257,5 +249,13 @@ final class CapitalBoundaries {
         due("one is closed, from 2", x.person(1, 4), 4);
         x.shuts(1, 0);
         due("opened", x.person(1, 4), 7);
+    }
+
+    private static void nothingIsChanged() {
+        sentence(5, "Nothing is changed");
+        stays("lane", 1, x -> x.lane(2, 3));
+        sentence(6, "Nothing is changed");
+        stays("person", 1, x -> x.person(1, 3));
+        stays("reach", 7, x -> x.person(0, 4));
     }
 }

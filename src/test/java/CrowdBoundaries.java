@@ -1,7 +1,5 @@
 /** Promises 18 to 21: meetings, theatres, whom to make narrow, who is ahead. */
-final class CrowdBoundaries {
-    private static final int BAD = Boundary.BAD, NONE = Boundary.NONE;
-
+final class CrowdBoundaries extends Boundary {
     private CrowdBoundaries() {
     }
 
@@ -32,14 +30,6 @@ final class CrowdBoundaries {
         orderLikeOnes();
         orderBad();
         nothingIsChanged();
-    }
-
-    private static void due(String what, long got, long want) {
-        Checks.due(what, got, want);
-    }
-
-    private static void sentence(int promise, String words) {
-        Boundary.sentence(promise, words);
     }
 
     // ---- meeting
@@ -101,15 +91,15 @@ final class CrowdBoundaries {
 
     private static void meetingBad() {
         sentence(18, "BAD (alike ones, too).");
-        Boundary.range("first", 0, 2, (x, p) -> x.meeting(p, 3, 1));
-        Boundary.range("second", 1, 3, (x, q) -> x.meeting(0, q, 1));
-        Boundary.range("lane", 0, 2, (x, l) -> x.meeting(0, 1, l));
+        range("first", 0, 2, (x, p) -> x.meeting(p, 3, 1));
+        range("second", 1, 3, (x, q) -> x.meeting(0, q, 1));
+        range("lane", 0, 2, (x, l) -> x.meeting(0, 1, l));
         for (int p = 0; p < 4; p++) {
             int alike = p;
-            Boundary.refused("alike ones, " + p, BAD, x -> x.meeting(alike, alike, 1));
-            Boundary.refused("alike ones in a closed lane, " + p, BAD, x -> x.meeting(alike, alike, 2));
+            stays("alike ones, " + p, BAD, x -> x.meeting(alike, alike, 1));
+            stays("alike ones in a closed lane, " + p, BAD, x -> x.meeting(alike, alike, 2));
         }
-        Boundary.refused("nobody in a closed lane", BAD, x -> x.meeting(0, 4, 2));
+        stays("nobody in a closed lane", BAD, x -> x.meeting(0, 4, 2));
     }
 
     // ---- theatre
@@ -155,7 +145,7 @@ final class CrowdBoundaries {
     }
 
     private static void theatreOfNobody() {
-        sentence(19, "the fewest rows in which all PEOPLE sit (nobody)");
+        sentence(19, "the fewest rows in which all PEOPLE sit", "nobody");
         seats("", 1, 0);
         seats("", 99, 0);
         due("person 0", Checks.told("").theatre(9, 0), BAD);
@@ -175,7 +165,8 @@ final class CrowdBoundaries {
     }
 
     private static void theatreTheFirst() {
-        sentence(19, "of several ways the first (row of PERSON 0, then 1, ..; a new row is the lowest number that none had)");
+        sentence(19, "of several ways the first (row of PERSON 0, then 1, ..; a new row is the lowest number "
+                + "that none had)");
         seats("p0 0;p0 0;p0 0;p0 0;", 8, 2, 0, 0, 1, 1);
         seats("p0 0;p0 0;p0 0;p0 0;", 15, 2, 0, 0, 0, 1);
         // 14, 4, 4 and 14 inches.
@@ -186,8 +177,8 @@ final class CrowdBoundaries {
 
     private static void theatreOfWidest() {
         sentence(19, "THEATRE for w (1 .. 99 inches a row)");
-        Boundary.range("w", 1, 99, (x, w) -> x.theatre(w, -1));
-        Boundary.range("w for one", 1, 99, (x, w) -> x.theatre(w, 0));
+        range("w", 1, 99, (x, w) -> x.theatre(w, -1));
+        range("w for one", 1, 99, (x, w) -> x.theatre(w, 0));
         due("w 0, nobody", Checks.told("").theatre(0, -1), BAD);
         due("w 100, nobody", Checks.told("").theatre(100, -1), BAD);
     }
@@ -204,7 +195,7 @@ final class CrowdBoundaries {
 
     private static void theatreBad() {
         sentence(19, "the row of a PERSON; NONE. BAD.");
-        Boundary.range("person", -1, 3, (x, p) -> x.theatre(30, p));
+        range("person", -1, 3, (x, p) -> x.theatre(30, p));
         ElbowRanks x = Checks.told("p5 0;");
         due("nobody, one is wider", x.theatre(13, 1), BAD);
         due("person -2, one is wider", x.theatre(13, -2), BAD);
@@ -220,7 +211,7 @@ final class CrowdBoundaries {
     }
 
     private static void narrowNobody() {
-        sentence(20, "so that all PEOPLE together are no WIDER than it (as they are)");
+        sentence(20, "so that all PEOPLE together are no WIDER than it", "as they are");
         narrows("l0 1 36;l0 1 40;p5 0;p4 1;p3 0;", 0, 0);
         narrows("l0 1 35;p5 0;p4 1;p3 0;", 1);
         narrows("l0 1 1;", 0);
@@ -228,7 +219,7 @@ final class CrowdBoundaries {
     }
 
     private static void narrowFewest() {
-        sentence(20, "the fewest PEOPLE (bits ..) to have ELBOW 0");
+        sentence(20, "the fewest PEOPLE ... to have ELBOW 0");
         // 10, 12 and 14 inches; without elbows 4 each: 30, 28, 26 by one, 22, 20, 18 by two, 12 by all.
         narrows("l0 1 36;l0 1 30;l0 1 29;l0 1 28;l0 1 27;l0 1 26;l0 1 25;l0 1 22;p3 0;p4 1;p5 0;",
                 0, 1, 2, 2, 4, 4, 3, 3);
@@ -246,7 +237,7 @@ final class CrowdBoundaries {
     }
 
     private static void narrowNone() {
-        sentence(20, "NARROW ..; NONE.");
+        sentence(20, "NARROW ... NONE.");
         narrows("l0 1 20;l0 1 19;p9 0;p9 0;p9 0;p9 0;p9 0;", 31, NONE);
         narrows("l0 1 20;l0 1 19;p0 0;p0 0;p0 0;p0 0;p0 0;", 0, NONE);
         narrows("b9;l0 1 9;l0 1 8;p0 0;", 0, NONE);
@@ -267,10 +258,10 @@ final class CrowdBoundaries {
     }
 
     private static void narrowBad() {
-        sentence(20, "NARROW .. BAD.");
-        Boundary.range("lane", 0, 2, (x, l) -> x.narrow(l));
+        sentence(20, "NARROW ... BAD.");
+        range("lane", 0, 2, (x, l) -> x.narrow(l));
         due("no lanes", Checks.told("p0 0;").narrow(0), BAD);
-        due("lane 8 of 8", Checks.told(Boundary.times(8, "l0 1 1;")).narrow(8), BAD);
+        due("lane 8 of 8", Checks.told(times(8, "l0 1 1;")).narrow(8), BAD);
     }
 
     // ---- order
@@ -301,21 +292,21 @@ final class CrowdBoundaries {
     }
 
     private static void orderBad() {
-        sentence(21, "ORDER .. BAD.");
-        Boundary.range("i", 0, 3, (x, i) -> x.order(i));
+        sentence(21, "ORDER ... BAD.");
+        range("i", 0, 3, (x, i) -> x.order(i));
         orders("");
     }
 
     private static void nothingIsChanged() {
         sentence(18, "Nothing is changed");
-        Boundary.refused("meeting, one alone", 1, x -> x.meeting(0, 1, 1));
-        Boundary.refused("meeting, none", 3, x -> x.meeting(0, 2, 1));
-        Boundary.refused("meeting, both", 0, x -> x.meeting(0, 3, 1));
+        stays("meeting, one alone", 1, x -> x.meeting(0, 1, 1));
+        stays("meeting, none", 3, x -> x.meeting(0, 2, 1));
+        stays("meeting, both", 0, x -> x.meeting(0, 3, 1));
         sentence(19, "Nothing is changed");
-        Boundary.refused("theatre", 2, x -> x.theatre(40, -1));
+        stays("theatre", 2, x -> x.theatre(40, -1));
         sentence(20, "Nothing is changed");
-        Boundary.refused("narrow", 5, x -> x.narrow(1));
+        stays("narrow", 5, x -> x.narrow(1));
         sentence(21, "Nothing is changed");
-        Boundary.refused("order", 2, x -> x.order(1));
+        stays("order", 2, x -> x.order(1));
     }
 }

@@ -1,9 +1,7 @@
 import java.util.function.Supplier;
 
 /** Promises 7 to 13: what is done, and undone. */
-final class DeedBoundaries {
-    private static final int BAD = Boundary.BAD, STATE = Boundary.STATE;
-
+final class DeedBoundaries extends Boundary {
     private DeedBoundaries() {
     }
 
@@ -43,14 +41,7 @@ final class DeedBoundaries {
         nowGaveWay();
         nowElbows();
         nowPadded();
-    }
-
-    private static void due(String what, long got, long want) {
-        Checks.due(what, got, want);
-    }
-
-    private static void sentence(int promise, String words) {
-        Boundary.sentence(promise, words);
+        nowChangesNothing();
     }
 
     // ---- goes
@@ -67,7 +58,7 @@ final class DeedBoundaries {
     }
 
     private static void goesFromEndToEnd() {
-        sentence(7, "GONE: a PERSON by a LANE at whose end he is AT .. where he is then");
+        sentence(7, "GONE: a PERSON by a LANE at whose end he is AT ... where he is then");
         ElbowRanks x = Checks.told("n8;l7 0 40;p0 0;p0 7;p0 3;");
         due("from its second place", x.goes(0, 0), 7);
         due("from its first place", x.goes(1, 0), 0);
@@ -79,26 +70,26 @@ final class DeedBoundaries {
     }
 
     private static void goesNot() {
-        sentence(7, "STATE: he is not at its end, it is CLOSED, too narrow .. nothing changes");
-        Boundary.refused("not at its end", STATE, x -> x.goes(1, 0));
-        Boundary.refused("closed", STATE, x -> x.goes(0, 2));
+        sentence(7, "STATE: he is not at its end, it is CLOSED, too narrow ... nothing changes");
+        stays("not at its end", STATE, x -> x.goes(1, 0));
+        stays("closed", STATE, x -> x.goes(0, 2));
         ElbowRanks y = Checks.told("l0 1 14;p5 0;");
         y.shuts(0, 1);
         due("closed, but wide enough", y.goes(0, 0), STATE);
-        ElbowRanks x = Boundary.busy();
+        ElbowRanks x = busy();
         due("opened, but too narrow", x.shuts(2, 0), 0);
         due("too narrow", x.goes(0, 2), STATE);
         due("he stays", x.person(0, 1), 0);
         due("nothing to be undone of it", x.count(6), 6);
-        Supplier<ElbowRanks> opened = () -> Boundary.after(Boundary::busy, z -> z.shuts(2, 0));
-        Boundary.changesNothing("too narrow", opened, z -> z.goes(0, 2));
+        Supplier<ElbowRanks> opened = () -> after(Boundary::busy, z -> z.shuts(2, 0));
+        changesNothing("too narrow", opened, z -> z.goes(0, 2));
     }
 
     private static void goesBad() {
-        sentence(7, "BAD; STATE (the first of these; there is no such thing)");
-        Boundary.range("person", 0, 3, (x, p) -> x.goes(p, 1));
-        Boundary.range("lane", 0, 2, (x, l) -> x.goes(0, l));
-        Boundary.refused("nobody by a closed lane", BAD, x -> x.goes(4, 2));
+        sentence(7, "the first of these: BAD ... or there is no such thing");
+        range("person", 0, 3, (x, p) -> x.goes(p, 1));
+        range("lane", 0, 2, (x, l) -> x.goes(0, l));
+        stays("nobody by a closed lane", BAD, x -> x.goes(4, 2));
     }
 
     // ---- meets
@@ -181,31 +172,31 @@ final class DeedBoundaries {
     }
 
     private static void meetsNot() {
-        sentence(8, "STATE: it is CLOSED, one is WIDER, they are not at its two ends .. nothing changes");
-        Boundary.refused("closed", STATE, x -> x.meets(0, 1, 2));
-        Boundary.refused("not at its two ends", STATE, x -> x.meets(1, 2, 1));
+        sentence(8, "STATE: it is CLOSED, one is WIDER, they are not at its two ends ... nothing changes");
+        stays("closed", STATE, x -> x.meets(0, 1, 2));
+        stays("not at its two ends", STATE, x -> x.meets(1, 2, 1));
         Supplier<ElbowRanks> wide = () -> Checks.told("l0 1 13;p5 0;p4 1;");
         due("one is wider", wide.get().meets(0, 1, 0), STATE);
-        Boundary.changesNothing("one is wider", wide, x -> x.meets(0, 1, 0));
+        changesNothing("one is wider", wide, x -> x.meets(0, 1, 0));
     }
 
     private static void meetsBad() {
-        sentence(8, "BAD (alike ones, too); STATE (the first of these)");
-        Boundary.range("first", 0, 2, (x, p) -> x.meets(p, 3, 1));
-        Boundary.range("second", 1, 3, (x, q) -> x.meets(0, q, 1));
-        Boundary.range("lane", 0, 2, (x, l) -> x.meets(0, 1, l));
+        sentence(8, "BAD (alike ones, too); STATE", "the first of these");
+        range("first", 0, 2, (x, p) -> x.meets(p, 3, 1));
+        range("second", 1, 3, (x, q) -> x.meets(0, q, 1));
+        range("lane", 0, 2, (x, l) -> x.meets(0, 1, l));
         for (int p = 0; p < 4; p++) {
             int alike = p;
-            Boundary.refused("alike ones, " + p, BAD, x -> x.meets(alike, alike, 0));
-            Boundary.refused("alike ones in a closed lane, " + p, BAD, x -> x.meets(alike, alike, 2));
+            stays("alike ones, " + p, BAD, x -> x.meets(alike, alike, 0));
+            stays("alike ones in a closed lane, " + p, BAD, x -> x.meets(alike, alike, 2));
         }
-        Boundary.refused("nobody in a closed lane", BAD, x -> x.meets(0, 4, 2));
+        stays("nobody in a closed lane", BAD, x -> x.meets(0, 4, 2));
     }
 
     // ---- claims
 
     private static void claimsBelow9() {
-        sentence(9, "a greater ELBOW (below 9) .. STATE: .. it is 9");
+        sentence(9, "a greater ELBOW (below 9) ... STATE: ... it is 9");
         ElbowRanks x = Checks.told("p8 0;p2 0;");
         due("of 8", x.claims(0, 1), 9);
         due("the other's", x.person(1, 0), 1);
@@ -216,7 +207,7 @@ final class DeedBoundaries {
     }
 
     private static void claimsAbove0() {
-        sentence(9, "takes an inch of another one .. (above 0) .. STATE: .. the other's is 0");
+        sentence(9, "takes an inch of another one ... (above 0) ... STATE: ... the other's is 0");
         ElbowRanks x = Checks.told("p5 0;p1 0;");
         due("of one inch", x.claims(0, 1), 6);
         due("none is left", x.person(1, 0), 0);
@@ -227,7 +218,7 @@ final class DeedBoundaries {
     }
 
     private static void claimsGreater() {
-        sentence(9, "STATE: .. his is not greater");
+        sentence(9, "STATE: ... his is not greater");
         due("an inch greater", Checks.told("p5 0;p4 0;").claims(0, 1), 6);
         due("alike", Checks.told("p5 0;p5 0;").claims(0, 1), STATE);
         due("an inch less", Checks.told("p4 0;p5 0;").claims(0, 1), STATE);
@@ -237,7 +228,7 @@ final class DeedBoundaries {
     }
 
     private static void claimsAtOnePlace() {
-        sentence(9, "another one AT the same PLACE .. STATE: not AT one PLACE");
+        sentence(9, "another one AT the same PLACE ... STATE: not AT one PLACE");
         ElbowRanks x = Checks.told("l0 1 40;p5 0;p3 1;");
         due("at the two ends of a lane", x.claims(0, 1), STATE);
         x.goes(1, 0);
@@ -246,22 +237,22 @@ final class DeedBoundaries {
     }
 
     private static void claimsNot() {
-        sentence(9, "STATE .. nothing changes");
-        Boundary.refused("not at one place", STATE, x -> x.claims(0, 1));
-        Boundary.refused("not greater", STATE, x -> x.claims(1, 2));
-        Boundary.refused("the other's is 0", STATE, x -> x.claims(2, 3));
+        sentence(9, "STATE ... nothing changes");
+        stays("not at one place", STATE, x -> x.claims(0, 1));
+        stays("not greater", STATE, x -> x.claims(1, 2));
+        stays("the other's is 0", STATE, x -> x.claims(2, 3));
         Supplier<ElbowRanks> nine = () -> Checks.told("p9 0;p1 0;");
         due("it is 9", nine.get().claims(0, 1), STATE);
-        Boundary.changesNothing("it is 9", nine, x -> x.claims(0, 1));
+        changesNothing("it is 9", nine, x -> x.claims(0, 1));
     }
 
     private static void claimsBad() {
-        sentence(9, "BAD (alike ones, too); STATE (the first of these)");
-        Boundary.range("second", 1, 3, (x, q) -> x.claims(0, q));
-        Boundary.range("first", 0, 2, (x, p) -> x.claims(p, 3));
+        sentence(9, "BAD (alike ones, too); STATE", "the first of these");
+        range("second", 1, 3, (x, q) -> x.claims(0, q));
+        range("first", 0, 2, (x, p) -> x.claims(p, 3));
         for (int p = 0; p < 4; p++) {
             int alike = p;
-            Boundary.refused("alike ones, " + p, BAD, x -> x.claims(alike, alike));
+            stays("alike ones, " + p, BAD, x -> x.claims(alike, alike));
         }
         Supplier<ElbowRanks> nine = () -> Checks.told("p9 0;");
         due("alike ones of 9", nine.get().claims(0, 0), BAD);
@@ -271,9 +262,9 @@ final class DeedBoundaries {
     // ---- patents
 
     private static void patentsAnElbow() {
-        sentence(10, "an ELBOW is e (0 .. 9) .. BAD");
-        Boundary.range("e", 0, 9, (x, e) -> x.patents(1, e));
-        Boundary.range("person", 0, 3, (x, p) -> x.patents(p, 7));
+        sentence(10, "an ELBOW is e (0 .. 9) ... BAD");
+        range("e", 0, 9, (x, e) -> x.patents(1, e));
+        range("person", 0, 3, (x, p) -> x.patents(p, 7));
         for (int e = 1; e <= 9; e++) {
             ElbowRanks x = Checks.told("p0 0;p0 0;");
             due("from 0 to " + e, x.patents(1, e), 0);
@@ -291,8 +282,8 @@ final class DeedBoundaries {
 
     private static void patentsSo() {
         sentence(10, "STATE: it is so.");
-        Boundary.refused("it is 5", STATE, x -> x.patents(0, 5));
-        Boundary.refused("it is 0", STATE, x -> x.patents(3, 0));
+        stays("it is 5", STATE, x -> x.patents(0, 5));
+        stays("it is 0", STATE, x -> x.patents(3, 0));
         for (int e = 0; e <= 9; e++) {
             due("it is " + e, Checks.told("p" + e + " 0;").patents(0, e), STATE);
         }
@@ -301,15 +292,15 @@ final class DeedBoundaries {
     // ---- shuts
 
     private static void shutsAndOpens() {
-        sentence(11, "CLOSED (1), opened (0) .. BAD");
-        Boundary.range("is", 0, 1, (x, is) -> x.shuts(0, is));
-        Boundary.range("lane", 0, 2, (x, l) -> x.shuts(l, 1));
-        Boundary.refused("no lane, and 2", BAD, x -> x.shuts(3, 2));
+        sentence(11, "CLOSED (1), opened (0) ... BAD");
+        range("is", 0, 1, (x, is) -> x.shuts(0, is));
+        range("lane", 0, 2, (x, l) -> x.shuts(l, 1));
+        stays("no lane, and 2", BAD, x -> x.shuts(3, 2));
     }
 
     private static void shutsHowMany() {
         sentence(11, "how many are CLOSED");
-        ElbowRanks x = Checks.told(Boundary.times(8, "l0 1 14;") + "p5 0;p5 1;");
+        ElbowRanks x = Checks.told(times(8, "l0 1 14;") + "p5 0;p5 1;");
         for (int l = 0; l < 8; l++) {
             due("closed " + l, x.shuts(l, 1), l + 1);
         }
@@ -323,8 +314,8 @@ final class DeedBoundaries {
 
     private static void shutsSo() {
         sentence(11, "STATE: it is so.");
-        Boundary.refused("it is open", STATE, x -> x.shuts(0, 0));
-        Boundary.refused("it is closed", STATE, x -> x.shuts(2, 1));
+        stays("it is open", STATE, x -> x.shuts(0, 0));
+        stays("it is closed", STATE, x -> x.shuts(2, 1));
         ElbowRanks x = Checks.told("l0 1 14;p5 0;p5 1;");
         x.meets(0, 1, 0);
         due("closed by a meeting", x.shuts(0, 1), STATE);
@@ -345,7 +336,7 @@ final class DeedBoundaries {
         due("as told still", x.person(0, 1), 0);
         due("one again", x.goes(0, 0), 1);
         due("one again undone", x.undo(), 0);
-        Boundary.changesNothing("none", made, y -> y.undo());
+        changesNothing("none", made, y -> y.undo());
     }
 
     private static void undoTen() {
@@ -380,7 +371,7 @@ final class DeedBoundaries {
     }
 
     private static void undoEach() {
-        sentence(12, "the latest GONE, MET, CLAIMED, PATENT, CLOSED, opened .. all is as ahead of it");
+        sentence(12, "the latest GONE, MET, CLAIMED, PATENT, CLOSED, opened ... all is as ahead of it");
         undone("gone", 1, Boundary::busy, x -> x.goes(3, 1));
         undone("claimed", 6, () -> Checks.told("p5 0;p1 0;"), x -> x.claims(0, 1));
         undone("patent", 5, Boundary::busy, x -> x.patents(2, 9));
@@ -392,20 +383,20 @@ final class DeedBoundaries {
         undone("met, it is closed", 3, () -> Checks.told("l0 1 14;p5 0;p5 1;"), x -> x.meets(0, 1, 0));
     }
 
-    private static void undone(String what, int answer, Supplier<ElbowRanks> made, Boundary.Call deed) {
+    private static void undone(String what, int answer, Supplier<ElbowRanks> made, Call deed) {
         ElbowRanks x = made.get();
         int known = x.count(6);
         due(what, deed.on(x), answer);
         due(what + ", known", x.count(6), known + 1);
         due(what + ", undone", x.undo(), known);
-        Boundary.changesNothing(what + ", undone", made, y -> {
+        changesNothing(what + ", undone", made, y -> {
             deed.on(y);
             y.undo();
         });
     }
 
     private static void undoLeaves() {
-        sentence(12, "UNDONE: the latest GONE, MET, CLAIMED, PATENT, CLOSED, opened (no others)");
+        sentence(12, "UNDONE: the latest GONE, MET, CLAIMED, PATENT, CLOSED, opened", "no others");
         ElbowRanks x = Checks.told("l0 1 40;p0 0;");
         x.goes(0, 0);
         x.gate(0, 4);
@@ -437,13 +428,13 @@ final class DeedBoundaries {
     // ---- now
 
     private static void nowWhat() {
-        sentence(13, "0 LANES that are CLOSED (bits) .. 3 PADDED (bits). BAD.");
-        Boundary.range("what", 0, 3, (x, what) -> x.now(what));
+        sentence(13, "0 LANES that are CLOSED (bits) ... 3 PADDED (bits). BAD.");
+        range("what", 0, 3, (x, what) -> x.now(what));
     }
 
     private static void nowClosed() {
         sentence(13, "0 LANES that are CLOSED (bits)");
-        ElbowRanks x = Checks.told(Boundary.times(8, "l0 1 14;"));
+        ElbowRanks x = Checks.told(times(8, "l0 1 14;"));
         due("none", x.now(0), 0);
         int bits = 0;
         for (int l = 7; l >= 0; l--) {
@@ -472,14 +463,14 @@ final class DeedBoundaries {
     private static void nowElbows() {
         sentence(13, "2 ELBOWS of all together");
         due("nobody", Checks.told("").now(2), 0);
-        due("five of 0", Checks.told(Boundary.times(5, "p0 0;")).now(2), 0);
-        due("five of 9", Checks.told(Boundary.times(5, "p9 0;")).now(2), 45);
-        due("only of those there are", Boundary.busy().now(2), 14);
+        due("five of 0", Checks.told(times(5, "p0 0;")).now(2), 0);
+        due("five of 9", Checks.told(times(5, "p9 0;")).now(2), 45);
+        due("only of those there are", busy().now(2), 14);
     }
 
     private static void nowPadded() {
         sentence(13, "PADDED: PEOPLE (bits) whose ELBOW is not among those that FIT");
-        ElbowRanks x = Checks.told(Boundary.times(5, "p5 0;"));
+        ElbowRanks x = Checks.told(times(5, "p5 0;"));
         due("nothing measured", x.now(3), 0);
         int bits = 0;
         for (int p = 4; p >= 0; p--) {
@@ -499,5 +490,11 @@ final class DeedBoundaries {
             y.gate(0, inches[i]);
             due("14 inches, measured " + inches[i], y.now(3), padded[i]);
         }
+    }
+
+    private static void nowChangesNothing() {
+        sentence(13, "Nothing is changed");
+        stays("closed", 4, x -> x.now(0));
+        stays("padded", 2 + 4, x -> x.now(3));
     }
 }

@@ -1,8 +1,7 @@
 import java.util.function.Supplier;
 
 /** Promises 22 to 24: what is measured at the gates. */
-final class GateBoundaries {
-    private static final int BAD = Boundary.BAD, STATE = Boundary.STATE, FULL = Boundary.FULL;
+final class GateBoundaries extends Boundary {
     private static final int ALL_ELBOWS = 1023;
 
     private GateBoundaries() {
@@ -27,23 +26,15 @@ final class GateBoundaries {
         nothingIsChanged();
     }
 
-    private static void due(String what, long got, long want) {
-        Checks.due(what, got, want);
-    }
-
-    private static void sentence(int promise, String words) {
-        Boundary.sentence(promise, words);
-    }
-
     // ---- gate
 
     private static void gateInches() {
-        sentence(22, "a PERSON was measured: m (0 .. 40 inches) .. BAD");
-        Boundary.range("m", 0, 40, (x, m) -> x.gate(0, m));
-        Boundary.range("person", 0, 3, (x, p) -> x.gate(p, 9));
+        sentence(22, "a PERSON was measured: m (0 .. 40 inches) ... BAD");
+        range("m", 0, 40, (x, m) -> x.gate(0, m));
+        range("person", 0, 3, (x, p) -> x.gate(p, 9));
         due("nobody is there", Checks.told("").gate(0, 9), BAD);
-        due("the fifth", Checks.told(Boundary.times(5, "p0 0;")).gate(4, 9), 1);
-        due("a sixth", Checks.told(Boundary.times(5, "p0 0;")).gate(5, 9), BAD);
+        due("the fifth", Checks.told(times(5, "p0 0;")).gate(4, 9), 1);
+        due("a sixth", Checks.told(times(5, "p0 0;")).gate(5, 9), BAD);
     }
 
     private static void gateHowMuch() {
@@ -56,7 +47,7 @@ final class GateBoundaries {
     }
 
     private static void gateSixAtMost() {
-        sentence(22, "GATE (6 at most) .. FULL");
+        sentence(22, "GATE (6 at most) ... FULL");
         ElbowRanks x = Checks.told("p0 0;p0 0;");
         for (int many = 1; many <= 6; many++) {
             due("measured " + many, x.gate(many % 2, 4), many);
@@ -76,7 +67,7 @@ final class GateBoundaries {
     }
 
     private static void gateBadAheadOfFull() {
-        sentence(22, "the first of these: BAD .. FULL");
+        sentence(22, "the first of these: BAD ... FULL");
         ElbowRanks x = Checks.told("p0 0;");
         for (int many = 1; many <= 6; many++) {
             x.gate(0, 4);
@@ -116,7 +107,7 @@ final class GateBoundaries {
         due("only what is measured since", x.fits(0), 1);
         due("none may be undone of it", x.undo(), STATE);
         // Else it is as it was.
-        Boundary.changesNothing("measured again", Boundary::busy, y -> {
+        changesNothing("measured again", Boundary::busy, y -> {
             y.forget();
             y.gate(1, 10);
             y.gate(2, 40);
@@ -126,7 +117,7 @@ final class GateBoundaries {
     // ---- fits
 
     private static void fitsUnmeasured() {
-        sentence(24, "ELBOWS (bits 0 .. 9) by which all that was measured of him is so (nothing was)");
+        sentence(24, "ELBOWS (bits 0 .. 9) by which all that was measured of him is so", "nothing was");
         due("nothing measured", Checks.told("p0 0;").fits(0), ALL_ELBOWS);
         ElbowRanks x = Checks.told("p0 0;p0 0;");
         x.gate(1, 40);
@@ -156,7 +147,7 @@ final class GateBoundaries {
     }
 
     private static void fitsWithoutError() {
-        sentence(24, "ERROR (0 .. 3 inches ..) (0: as WIDE)");
+        sentence(24, "ERROR (0 .. 3 inches", "of 0");
         fits("p0 0;e0;", 3, 0);
         fits("p0 0;e0;", 4, 1);
         fits("p0 0;e0;", 5, 0);
@@ -167,7 +158,7 @@ final class GateBoundaries {
     }
 
     private static void fitsByTheGreatestError() {
-        sentence(24, "ERROR (0 .. 3 inches ..) (3)");
+        sentence(24, "ERROR (0 .. 3 inches", "of 3");
         fits("p0 0;e3;", 0, 0);
         fits("p0 0;e3;", 1, 1);
         fits("p0 0;e3;", 7, 1 + 2 + 4 + 8);
@@ -207,7 +198,7 @@ final class GateBoundaries {
 
     private static void fitsWhatIsMeasuredOfHim() {
         sentence(24, "all that was measured of him");
-        ElbowRanks x = Checks.told(Boundary.times(5, "p0 0;"));
+        ElbowRanks x = Checks.told(times(5, "p0 0;"));
         for (int p = 0; p < 5; p++) {
             x.gate(p, 4 + 2 * p);
         }
@@ -217,7 +208,7 @@ final class GateBoundaries {
     }
 
     private static void fitsWhateverHisElbowIs() {
-        sentence(24, "FITS of a PERSON: ELBOWS (whatever his is)");
+        sentence(24, "FITS of a PERSON: ELBOWS", "whatever his is");
         ElbowRanks x = Checks.told("p0 0;");
         x.gate(0, 4);
         x.patents(0, 9);
@@ -229,23 +220,23 @@ final class GateBoundaries {
 
     private static void fitsBad() {
         sentence(24, "FITS, as bits. BAD.");
-        Boundary.range("person", 0, 3, (x, p) -> x.fits(p));
+        range("person", 0, 3, (x, p) -> x.fits(p));
         due("nobody is there", Checks.told("").fits(0), BAD);
-        due("the fifth", Checks.told(Boundary.times(5, "p0 0;")).fits(4), ALL_ELBOWS);
-        due("a sixth", Checks.told(Boundary.times(5, "p0 0;")).fits(5), BAD);
+        due("the fifth", Checks.told(times(5, "p0 0;")).fits(4), ALL_ELBOWS);
+        due("a sixth", Checks.told(times(5, "p0 0;")).fits(5), BAD);
     }
 
     private static void nothingIsChanged() {
         sentence(22, "Refused, and nothing changes");
-        Boundary.refused("of 41 inches", BAD, x -> x.gate(0, 41));
-        Supplier<ElbowRanks> full = () -> Boundary.after(Boundary::busy, x -> {
+        stays("of 41 inches", BAD, x -> x.gate(0, 41));
+        Supplier<ElbowRanks> full = () -> after(Boundary::busy, x -> {
             for (int many = 3; many <= 6; many++) {
                 x.gate(0, 14);
             }
         });
         due("a seventh", full.get().gate(3, 0), FULL);
-        Boundary.changesNothing("a seventh", full, x -> x.gate(3, 0));
+        changesNothing("a seventh", full, x -> x.gate(3, 0));
         sentence(24, "Nothing is changed");
-        Boundary.refused("fits", 0, x -> x.fits(2));
+        stays("fits", 0, x -> x.fits(2));
     }
 }

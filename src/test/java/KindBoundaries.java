@@ -1,8 +1,7 @@
 import java.util.function.Supplier;
 
 /** Promises 25 to 29: KINDS, IMAGES, counts, THE TRACE. */
-final class KindBoundaries {
-    private static final int BAD = Boundary.BAD, STATE = Boundary.STATE, NO = Boundary.NO;
+final class KindBoundaries extends Boundary {
     private static final String ROW = "n8;l0 1 4;l1 2 4;l2 3 4;l3 4 4;l4 5 4;l5 6 4;l6 7 4;";
 
     private KindBoundaries() {
@@ -17,6 +16,7 @@ final class KindBoundaries {
         markTailor();
         markThief();
         markNo();
+        markChangesNothingElse();
         keepHowMany();
         keepImages();
         keepAnew();
@@ -30,29 +30,22 @@ final class KindBoundaries {
         countLeast();
         countMost();
         countBad();
+        countChangesNothing();
         traceAtFirst();
         traceOften();
         traceOfAllCalls();
         traceOfRefused();
     }
 
-    private static void due(String what, long got, long want) {
-        Checks.due(what, got, want);
-    }
-
-    private static void sentence(int promise, String words) {
-        Boundary.sentence(promise, words);
-    }
-
     // ---- mark
 
     private static void markKinds() {
-        sentence(25, "0 PERSON; 1 EARL, 2 PAGE, 5 THIEF ..; 3 BRIDE ..; 4 TAILOR .. NO: BAD");
-        Boundary.range("kind", 0, 5, NO, Boundary::busy, (x, kind) -> x.mark(kind, 1));
-        Boundary.range("person", 0, 3, NO, Boundary::busy, (x, p) -> x.mark(3, p));
+        sentence(25, "0 PERSON; 1 EARL, 2 PAGE, 5 THIEF ... 3 BRIDE ... 4 TAILOR ... NO: BAD");
+        range("kind", 0, 5, NO, Boundary::busy, (x, kind) -> x.mark(kind, 1));
+        range("person", 0, 3, NO, Boundary::busy, (x, p) -> x.mark(3, p));
         due("nobody is there", Checks.told("").mark(0, 0), NO);
-        due("the fifth", Checks.told(Boundary.times(5, "p0 0;")).mark(0, 4), 4);
-        due("a sixth", Checks.told(Boundary.times(5, "p0 0;")).mark(0, 5), NO);
+        due("the fifth", Checks.told(times(5, "p0 0;")).mark(0, 4), 4);
+        due("a sixth", Checks.told(times(5, "p0 0;")).mark(0, 5), NO);
     }
 
     private static void markPerson() {
@@ -70,7 +63,7 @@ final class KindBoundaries {
 
     private static void markPage() {
         sentence(25, "PAGE up less his number");
-        ElbowRanks x = Checks.told("b1;" + Boundary.times(5, "p0 0;"));
+        ElbowRanks x = Checks.told("b1;" + times(5, "p0 0;"));
         for (int p = 0; p < 5; p++) {
             due("of " + p, x.mark(2, p), 1 - p);
         }
@@ -94,12 +87,12 @@ final class KindBoundaries {
             due("often", x.mark(4, 1), 12 - 1 + often);
         }
         due("who passed", x.mark(4, 0), 14);
-        due("the least", Checks.told("b1;" + Boundary.times(5, "p0 0;")).mark(4, 4), 1 - 4);
+        due("the least", Checks.told("b1;" + times(5, "p0 0;")).mark(4, 4), 1 - 4);
     }
 
     private static void markThief() {
         sentence(25, "THIEF up, and how many LANES are CLOSED");
-        ElbowRanks x = Checks.told(Boundary.times(8, "l0 1 4;") + "p0 0;");
+        ElbowRanks x = Checks.told(times(8, "l0 1 4;") + "p0 0;");
         due("none", x.mark(5, 0), 4);
         for (int l = 0; l < 8; l++) {
             x.shuts(7 - l, 1);
@@ -109,20 +102,26 @@ final class KindBoundaries {
     }
 
     private static void markNo() {
-        sentence(25, "NO: BAD. (nothing comes to THE TRACE)");
-        int[][] asked = {{-1, 0}, {6, 0}, {0, -1}, {0, 4}, {6, 4}, {Boundary.LOW, 0}, {5, Boundary.HIGH}};
+        sentence(25, "NO: BAD.", "nothing comes to THE TRACE");
+        int[][] asked = {{-1, 0}, {6, 0}, {0, -1}, {0, 4}, {6, 4}, {LOW, 0}, {5, HIGH}};
         for (int[] numbers : asked) {
-            Boundary.refused("mark " + numbers[0] + " " + numbers[1], NO, x -> x.mark(numbers[0], numbers[1]));
+            stays("mark " + numbers[0] + " " + numbers[1], NO, x -> x.mark(numbers[0], numbers[1]));
         }
-        sentence(25, "MARK of a PERSON as if of a KIND (but for THE TRACE)");
-        ElbowRanks x = Boundary.busy();
-        x.mark(4, 1);
-        ElbowRanks y = Boundary.busy();
-        for (int i = 0; i < 101; i++) {
-            y.mark(2, 0);
+    }
+
+    private static void markChangesNothingElse() {
+        sentence(25, "numbers in brackets come to THE TRACE");
+        ElbowRanks x = busy();
+        int[] marks = {12, 15, 11, 30, 12, 13};
+        for (int kind = 0; kind < marks.length; kind++) {
+            due("kind " + kind, x.mark(kind, 1), marks[kind]);
         }
-        due("TAILOR asks PAGE asks PERSON", x.trace(), 11 + 10101);
-        due("a hundred and one times PAGE", y.trace(), 11 + 101 * 101);
+        counts("marked", x, 3, 3, 4, 4, 1, 2, 5, 2);
+        due("closed", x.now(0), 4);
+        due("gave way", x.now(1), 1);
+        due("elbows", x.now(2), 14);
+        due("where he is", x.person(1, 1), 2);
+        due("undone", x.undo(), 4);
     }
 
     // ---- keep, back
@@ -130,7 +129,7 @@ final class KindBoundaries {
     private static void keepHowMany() {
         sentence(26, "An IMAGE is kept: how many LANES are CLOSED.");
         due("of no lanes", Checks.told("").keep(0), 0);
-        ElbowRanks x = Checks.told(Boundary.times(8, "l0 1 4;"));
+        ElbowRanks x = Checks.told(times(8, "l0 1 4;"));
         due("none", x.keep(0), 0);
         for (int l = 0; l < 8; l++) {
             x.shuts(l, 1);
@@ -139,8 +138,8 @@ final class KindBoundaries {
     }
 
     private static void keepImages() {
-        sentence(26, "IMAGES 0, 1 .. BAD");
-        Boundary.range("image", 0, 1, (x, image) -> x.keep(image));
+        sentence(26, "IMAGES 0, 1 ... BAD");
+        range("image", 0, 1, (x, image) -> x.keep(image));
         ElbowRanks x = Checks.told("p0 0;");
         due("one", x.keep(1), 0);
         due("the other is not kept", x.back(0), STATE);
@@ -153,7 +152,7 @@ final class KindBoundaries {
     }
 
     private static void keepAnew() {
-        sentence(26, "An IMAGE is kept (anew)");
+        sentence(26, "An IMAGE is kept", "anew");
         ElbowRanks x = Checks.told("p0 0;");
         x.patents(0, 1);
         x.keep(0);
@@ -170,12 +169,12 @@ final class KindBoundaries {
 
     private static void keepChangesNothing() {
         sentence(26, "IMAGES 0, 1 keep NOW");
-        ElbowRanks x = Boundary.busy();
+        ElbowRanks x = busy();
         due("kept", x.keep(1), 1);
         due("undone as before", x.undo(), 4);
-        Supplier<ElbowRanks> kept = () -> Boundary.after(Boundary::busy, y -> y.keep(1));
-        Boundary.changesNothing("kept again", kept, y -> y.keep(1));
-        Boundary.changesNothing("undone and back", kept, y -> {
+        Supplier<ElbowRanks> kept = () -> after(Boundary::busy, y -> y.keep(1));
+        changesNothing("kept again", kept, y -> y.keep(1));
+        changesNothing("undone and back", kept, y -> {
             y.undo();
             y.undo();
             y.back(1);
@@ -186,7 +185,7 @@ final class KindBoundaries {
         sentence(27, "STATE: none was kept.");
         due("a new object", new ElbowRanks().back(0), STATE);
         due("a new object", new ElbowRanks().back(1), STATE);
-        Boundary.refused("only 0 was kept", STATE, x -> x.back(1));
+        stays("only 0 was kept", STATE, x -> x.back(1));
         ElbowRanks x = Checks.told("p0 0;");
         x.keep(1);
         due("only 1 was kept", x.back(0), STATE);
@@ -202,7 +201,7 @@ final class KindBoundaries {
 
     private static void backHowMany() {
         sentence(27, "how many LANES are CLOSED");
-        ElbowRanks x = Checks.told(Boundary.times(8, "l0 1 4;"));
+        ElbowRanks x = Checks.told(times(8, "l0 1 4;"));
         x.keep(0);
         for (int l = 0; l < 8; l++) {
             x.shuts(l, 1);
@@ -216,8 +215,8 @@ final class KindBoundaries {
 
     private static void backAllOfThat() {
         sentence(27, "where all are, ELBOWS, what is CLOSED, how often each GAVE WAY, what may be UNDONE");
-        Supplier<ElbowRanks> kept = () -> Boundary.after(Boundary::busy, y -> y.keep(1));
-        ElbowRanks x = Boundary.after(kept, KindBoundaries::doAll);
+        Supplier<ElbowRanks> kept = () -> after(Boundary::busy, y -> y.keep(1));
+        ElbowRanks x = after(kept, KindBoundaries::doAll);
         due("deeds since", x.count(6), 10);
         due("who gave way since", x.person(1, 3), 2);
         due("closed since", x.now(0), 1);
@@ -227,7 +226,7 @@ final class KindBoundaries {
         due("where he is", x.person(2, 1), 2);
         due("his elbow", x.person(0, 0), 5);
         due("deeds", x.count(6), 5);
-        Boundary.changesNothing("all done, and back", kept, y -> {
+        changesNothing("all done, and back", kept, y -> {
             doAll(y);
             y.back(1);
         });
@@ -254,14 +253,14 @@ final class KindBoundaries {
         x.type('3');
         x.patents(0, 2);
         due("back", x.back(0), 0);
-        Boundary.counts("back", x, 3, 1, 1, 2, 3, 2, 0, 2);
+        counts("back", x, 3, 1, 1, 2, 3, 2, 0, 2);
         due("the trace", x.trace(), 12);
         due("what was measured", x.fits(0), 0);
         due("the elbow", x.person(0, 0), 1);
         x.forget();
         x.clear();
         due("back again", x.back(0), 0);
-        Boundary.counts("back again", x, 3, 1, 1, 2, 3, 0, 0, 0);
+        counts("back again", x, 3, 1, 1, 2, 3, 0, 0, 0);
         due("nothing was measured", x.fits(0), 1023);
     }
 
@@ -290,22 +289,22 @@ final class KindBoundaries {
     }
 
     private static void backBad() {
-        sentence(27, "All of that becomes as an IMAGE has it .. BAD");
-        Boundary.range("image", 0, 1, (x, image) -> x.back(image));
+        sentence(27, "All of that becomes as an IMAGE has it ... BAD");
+        range("image", 0, 1, (x, image) -> x.back(image));
     }
 
     // ---- count, trace
 
     private static void countLeast() {
-        sentence(28, "0 PLACES, 1 LANES, 2 PEOPLE, 3 BODY, 4 ERROR, 5 what was measured (how much), "
-                + "6 how many may be UNDONE, 7 bytes of THE TEXT (the least)");
-        Boundary.counts("told", Checks.told("n2;b1;e0;"), 2, 0, 0, 1, 0, 0, 0, 0);
+        sentence(28, "0 PLACES, 1 LANES, 2 PEOPLE, 3 BODY, 4 ERROR, 5 what was measured (how much), 6 how many "
+                + "may be UNDONE, 7 bytes of THE TEXT", "the least");
+        counts("told", Checks.told("n2;b1;e0;"), 2, 0, 0, 1, 0, 0, 0, 0);
     }
 
     private static void countMost() {
-        sentence(28, "0 PLACES, 1 LANES, 2 PEOPLE, 3 BODY, 4 ERROR, 5 what was measured (how much), "
-                + "6 how many may be UNDONE, 7 bytes of THE TEXT (the most)");
-        ElbowRanks x = Checks.told("n8;b9;e3;" + Boundary.times(8, "l0 1 1;") + Boundary.times(5, "p0 0;"));
+        sentence(28, "0 PLACES, 1 LANES, 2 PEOPLE, 3 BODY, 4 ERROR, 5 what was measured (how much), 6 how many "
+                + "may be UNDONE, 7 bytes of THE TEXT", "the most");
+        ElbowRanks x = Checks.told("n8;b9;e3;" + times(8, "l0 1 1;") + times(5, "p0 0;"));
         for (int i = 0; i < 12; i++) {
             x.shuts(7, 1 - i % 2);
             x.gate(4, 9);
@@ -313,12 +312,19 @@ final class KindBoundaries {
         for (int i = 0; i < 151; i++) {
             x.type(32);
         }
-        Boundary.counts("full", x, 8, 8, 5, 9, 3, 6, 10, 150);
+        counts("full", x, 8, 8, 5, 9, 3, 6, 10, 150);
     }
 
     private static void countBad() {
         sentence(28, "7 bytes of THE TEXT. BAD.");
-        Boundary.range("what", 0, 7, (x, what) -> x.count(what));
+        range("what", 0, 7, (x, what) -> x.count(what));
+    }
+
+    private static void countChangesNothing() {
+        sentence(28, "Nothing is changed");
+        stays("count", 5, x -> x.count(6));
+        sentence(29, "Nothing is changed");
+        stays("trace", 11, x -> (int) x.trace());
     }
 
     private static void traceAtFirst() {
@@ -333,7 +339,7 @@ final class KindBoundaries {
     }
 
     private static void traceOften() {
-        sentence(29, "numbers in brackets come to THE TRACE .. as often as mark() asks that body");
+        sentence(29, "numbers in brackets come to THE TRACE ... as often as mark() asks that body");
         int[] comes = {1, 11, 101, 1011, 10101, 100001};
         for (int kind = 0; kind < comes.length; kind++) {
             ElbowRanks x = Checks.told("n8;p0 7;p3 0;");

@@ -1,10 +1,9 @@
 import java.util.function.Supplier;
 
 /** Promises 2 to 4: THE TEXT, and how it is read. */
-final class TextBoundaries {
-    private static final int BAD = Boundary.BAD, FULL = Boundary.FULL;
-    private static final String EIGHT_LANES = Boundary.times(8, "l0 1 1;");
-    private static final String FIVE_PEOPLE = Boundary.times(5, "p0 0;");
+final class TextBoundaries extends Boundary {
+    private static final String EIGHT_LANES = times(8, "l0 1 1;");
+    private static final String FIVE_PEOPLE = times(5, "p0 0;");
 
     private TextBoundaries() {
     }
@@ -40,14 +39,6 @@ final class TextBoundaries {
         howManyItems();
         emptyThen();
         faultsChangeNothing();
-    }
-
-    private static void due(String what, long got, long want) {
-        Checks.due(what, got, want);
-    }
-
-    private static void sentence(int promise, String words) {
-        Boundary.sentence(promise, words);
     }
 
     private static void reads(String text, int items) {
@@ -88,7 +79,7 @@ final class TextBoundaries {
         for (int c = 150; c <= 255; c++) {
             due("byte " + c, x.type(c), c - 149);
         }
-        Boundary.range("byte", 0, 255, (y, c) -> y.type(c));
+        range("byte", 0, 255, (y, c) -> y.type(c));
         ElbowRanks z = new ElbowRanks();
         due("';' and 256", z.type(';' + 256), BAD);
         due("';' less 256", z.type(';' - 256), BAD);
@@ -98,25 +89,25 @@ final class TextBoundaries {
     private static void mostBytes() {
         sentence(2, "a text (150 bytes at most)");
         ElbowRanks x = new ElbowRanks();
-        Checks.type(x, "b3;" + Boundary.blanks(146));
+        Checks.type(x, "b3;" + blanks(146));
         due("the 150th", x.type(32), 150);
         due("the 151st", x.type('b'), FULL);
         due("it did not come", x.count(7), 150);
         due("150 bytes are read", x.capital(), 1);
         due("there is room again", x.type('b'), 1);
         sentence(2, "FULL");
-        Checks.type(x, "3;" + Boundary.blanks(147));
+        Checks.type(x, "3;" + blanks(147));
         due("a letter", x.type('x'), FULL);
         due("a byte 0", x.type(0), FULL);
         due("the text is as it was", x.capital(), 1);
-        faultOf(Boundary.blanks(149) + "n", 150);
-        faultOf(Boundary.blanks(149) + "x", 149);
+        faultOf(blanks(149) + "n", 150);
+        faultOf(blanks(149) + "x", 149);
     }
 
     private static void badAheadOfFull() {
         sentence(2, "the first of these: BAD");
         ElbowRanks x = new ElbowRanks();
-        Checks.type(x, Boundary.blanks(150));
+        Checks.type(x, blanks(150));
         due("256 of a full one", x.type(256), BAD);
         due("-1 of a full one", x.type(-1), BAD);
         due("255 of a full one", x.type(255), FULL);
@@ -129,15 +120,15 @@ final class TextBoundaries {
         x.type(0);
         due("of one", x.clear(), 1);
         due("of none again", x.clear(), 0);
-        Checks.type(x, Boundary.blanks(150));
+        Checks.type(x, blanks(150));
         due("of 150", x.clear(), 150);
         due("how many then", x.count(7), 0);
         due("there is room for one", x.type('b'), 1);
         due("it is read from the new one on", x.capital(), -10 - 1);
         due("of a faulty one", x.clear(), 1);
         due("an empty one is read", x.capital(), 0);
-        due("of a busy one", Boundary.busy().clear(), 2);
-        Boundary.changesNothing("clear and type", Boundary::busy, y -> {
+        due("of a busy one", busy().clear(), 2);
+        changesNothing("clear and type", Boundary::busy, y -> {
             y.clear();
             Checks.type(y, "b3");
         });
@@ -149,8 +140,8 @@ final class TextBoundaries {
         sentence(4, "ITEMS (none, too)");
         reads("", 0);
         reads(" ", 0);
-        reads(Boundary.blanks(150), 0);
-        Boundary.counts("none", Checks.told(""), 2, 0, 0, 4, 1, 0, 0, 0);
+        reads(blanks(150), 0);
+        counts("none", Checks.told(""), 2, 0, 0, 4, 1, 0, 0, 0);
     }
 
     private static void mostItems() {
@@ -162,9 +153,9 @@ final class TextBoundaries {
     private static void blanks() {
         sentence(4, "blanks (32) ahead of, between and behind TOKENS as may be");
         reads("  n  3  ;   l   0  2   40  ;  p  9   2  ;  b  9 ;   e   3  ;   ", 5);
-        reads(Boundary.blanks(147) + "b3;", 1);
-        reads("b" + Boundary.blanks(147) + "3;", 1);
-        reads("b3;" + Boundary.blanks(147), 1);
+        reads(blanks(147) + "b3;", 1);
+        reads("b" + blanks(147) + "3;", 1);
+        reads("b3;" + blanks(147), 1);
         int[] none = {0, 9, 10, 13, 31, 33, 64, 96, 128, 160, 255};
         for (int c : none) {
             faultOf("b3;" + (char) c, 3);
@@ -214,7 +205,7 @@ final class TextBoundaries {
     }
 
     private static void howManyPlaces() {
-        sentence(4, "PLACES 0 .. as many as are told less 1 (2 .. 8; 2 at first)");
+        sentence(4, "as many as are told less 1 ... 8; 2 at first");
         numbers("n", 2, 8, ";", 1);
         due("2", Checks.told("n2;").count(0), 2);
         due("8", Checks.told("n8;").count(0), 8);
@@ -354,7 +345,9 @@ final class TextBoundaries {
 
     private static void whatIsDueIsAnother() {
         sentence(4, "the first byte of the first TOKEN that can't stand there");
-        faultOf("3;", 0);
+        for (int number = 0; number <= 99; number++) {
+            faultOf(number + " 3;", 0);
+        }
         faultOf("  ;", 2);
         faultOf("b3; 12", 4);
         faultOf("b b;", 2);
@@ -366,7 +359,7 @@ final class TextBoundaries {
     }
 
     private static void numbersAbove99() {
-        sentence(4, "a NUMBER above 99 ..: that TOKEN's");
+        sentence(4, "a NUMBER above 99 ... that TOKEN's");
         faultOf("b100;", 1);
         faultOf("b 999;", 2);
         // 2 and as much as an int, a long, a byte, a short can't hold.
@@ -378,12 +371,12 @@ final class TextBoundaries {
         faultOf("n1000000002;", 1);
         faultOf("l0 1  100;", 6);
         faultOf("b3;100;", 3);
-        faultOf("b" + Boundary.times(149, "1"), 1);
-        faultOf(Boundary.times(150, "9"), 0);
+        faultOf("b" + times(149, "1"), 1);
+        faultOf(times(150, "9"), 0);
     }
 
     private static void numbersWithA0Ahead() {
-        sentence(4, "a NUMBER .. with a 0 ahead of others: that TOKEN's");
+        sentence(4, "a NUMBER ... with a 0 ahead of others, that TOKEN's");
         faultOf("n02;", 1);
         faultOf("b 009;", 2);
         faultOf("e00;", 1);
@@ -413,11 +406,11 @@ final class TextBoundaries {
         }
         due("all of it", items, 5);
         faultOf("b", 1);
-        faultOf("b3" + Boundary.blanks(148), 150);
+        faultOf("b3" + blanks(148), 150);
     }
 
     private static void theFirstFault() {
-        sentence(4, "FAULT: the place of .. the first TOKEN that can't stand there");
+        sentence(4, "FAULT: the place of ... the first TOKEN that can't stand there");
         faultOf("b0;e9;", 1);
         faultOf("b3;e9;?", 4);
         faultOf("?b0;", 0);
@@ -431,7 +424,7 @@ final class TextBoundaries {
     // ---- what comes of it
 
     private static void howManyItems() {
-        sentence(4, "THE TEXT tells all .. how many ITEMS");
+        sentence(4, "THE TEXT tells all ... how many ITEMS");
         StringBuilder text = new StringBuilder();
         for (int items = 0; items <= 5; items++) {
             reads(text.toString(), items);
@@ -452,14 +445,14 @@ final class TextBoundaries {
 
     private static void faultsChangeNothing() {
         sentence(4, "-10 less FAULT: nothing changes (THE TEXT, too, stays)");
-        Boundary.refused("capital of \"b3\"", -10 - 2, x -> x.capital());
+        stays("capital of \"b3\"", -10 - 2, x -> x.capital());
         String[] behind = {";n4;", ";l0 1 5;p5 1;e3;?", ";e0;b", ";p1 1;p1 1;p1 1;p1 1;p1 1;p1 1;", ";l0 1 9"};
         int[] faults = {3, 18, 6, 28, 9};
         for (int i = 0; i < behind.length; i++) {
             String more = behind[i];
-            Supplier<ElbowRanks> typed = () -> Boundary.after(Boundary::busy, x -> Checks.type(x, more));
+            Supplier<ElbowRanks> typed = () -> after(Boundary::busy, x -> Checks.type(x, more));
             due("b3" + more, typed.get().capital(), -10 - faults[i]);
-            Boundary.changesNothing("b3" + more, typed, x -> x.capital());
+            changesNothing("b3" + more, typed, x -> x.capital());
         }
         ElbowRanks x = new ElbowRanks();
         Checks.type(x, "n3");

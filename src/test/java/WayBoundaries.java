@@ -1,10 +1,8 @@
 /** Promises 14 to 17: ways, what they lack, what one must, odds. */
-final class WayBoundaries {
-    private static final int BAD = Boundary.BAD, NONE = Boundary.NONE;
-    private static final int HIGH = Boundary.HIGH, LOW = Boundary.LOW;
+final class WayBoundaries extends Boundary {
     /** All PLACES in a row, by LANES of 4 inches. */
     private static final String ROW = "n8;l0 1 4;l1 2 4;l2 3 4;l3 4 4;l4 5 4;l5 6 4;l6 7 4;";
-    private static final String SIDE_BY_SIDE = Boundary.times(8, "l0 1 4;");
+    private static final String SIDE_BY_SIDE = times(8, "l0 1 4;");
 
     private WayBoundaries() {
     }
@@ -37,14 +35,6 @@ final class WayBoundaries {
         oddsOfMost();
         oddsBad();
         nothingIsChanged();
-    }
-
-    private static void due(String what, long got, long want) {
-        Checks.due(what, got, want);
-    }
-
-    private static void sentence(int promise, String words) {
-        Boundary.sentence(promise, words);
     }
 
     // ---- way
@@ -81,7 +71,7 @@ final class WayBoundaries {
     }
 
     private static void wayNone() {
-        sentence(14, "how many; the i-th, of several ways the first ..; NONE");
+        sentence(14, "how many; the i-th, of several ways the first ... NONE");
         ElbowRanks x = Checks.told("n3;l0 1 4;p0 0;");
         due("how many", x.way(0, 2, -1), NONE);
         due("the first", x.way(0, 2, 0), NONE);
@@ -150,8 +140,8 @@ final class WayBoundaries {
         due("i -2, where he is", x.way(0, 0, -2), BAD);
         due("i -2, no way", x.way(0, 2, -2), BAD);
         due("i -1", x.way(0, 1, -1), 1);
-        Boundary.range("person", 0, 3, (y, p) -> y.way(p, 1, -1));
-        Boundary.range("place", 0, 2, (y, to) -> y.way(0, to, -1));
+        range("person", 0, 3, (y, p) -> y.way(p, 1, -1));
+        range("place", 0, 2, (y, to) -> y.way(0, to, -1));
         due("place 7 of 8", Checks.told("n8;p0 0;").way(0, 7, -1), NONE);
         due("place 8 of 8", Checks.told("n8;p0 0;").way(0, 8, -1), BAD);
     }
@@ -175,7 +165,7 @@ final class WayBoundaries {
     }
 
     private static void lacksAddedUp() {
-        sentence(15, "of all ways .. the fewest inches .., added up");
+        sentence(15, "of all ways ... the fewest inches ... added up");
         String narrow = "n8;b9;l0 1 1;l1 2 1;l2 3 1;l3 4 1;l4 5 1;l5 6 1;l6 7 1;p9 0;";
         due("the most of all", Checks.told(narrow).lacks(0, 7), 7 * 26);
         // Two LANES that lack 2 and 3 inches, or one that lacks 5, 6, 4.
@@ -211,9 +201,9 @@ final class WayBoundaries {
     }
 
     private static void lacksBad() {
-        sentence(15, "LACKS .. BAD.");
-        Boundary.range("person", 0, 3, (x, p) -> x.lacks(p, 1));
-        Boundary.range("place", 0, 2, (x, to) -> x.lacks(0, to));
+        sentence(15, "LACKS ... BAD.");
+        range("person", 0, 3, (x, p) -> x.lacks(p, 1));
+        range("place", 0, 2, (x, to) -> x.lacks(0, to));
         due("place 8 of 8", Checks.told("n8;p0 0;").lacks(0, 8), BAD);
         due("place 7 of 8", Checks.told("n8;p0 7;").lacks(0, 7), 0);
     }
@@ -221,7 +211,7 @@ final class WayBoundaries {
     // ---- must
 
     private static void mustWhereHeIs() {
-        sentence(16, "LANES (bits) each of which he can't do without (where he is)");
+        sentence(16, "LANES (bits) each of which he can't do without", "where he is");
         due("with a lane", Checks.told("l0 1 9;p0 0;").must(0, 0), 0);
         due("without", Checks.told("p0 1;").must(0, 1), 0);
     }
@@ -246,15 +236,15 @@ final class WayBoundaries {
         due("none of a ring", Checks.told(ROW + "l7 0 4;p0 0;").must(0, 4), 0);
         due("a ring with a lane too narrow", Checks.told(ROW + "l7 0 3;p0 0;").must(0, 4), 1 + 2 + 4 + 8);
         due("none of eight side by side", Checks.told(SIDE_BY_SIDE + "p0 0;").must(0, 1), 0);
-        due("the eighth", Checks.told("n3;" + Boundary.times(7, "l0 1 4;") + "l1 2 4;p0 0;").must(0, 2), 128);
+        due("the eighth", Checks.told("n3;" + times(7, "l0 1 4;") + "l1 2 4;p0 0;").must(0, 2), 128);
         // The second LANE is as short a way, but too narrow; the third leads elsewhere.
         due("one alone", Checks.told("n3;l0 1 4;l0 1 3;l0 2 9;p0 0;").must(0, 1), 1);
     }
 
     private static void mustBad() {
         sentence(16, "MUST, as bits. BAD.");
-        Boundary.range("person", 0, 3, (x, p) -> x.must(p, 1));
-        Boundary.range("place", 0, 2, (x, to) -> x.must(0, to));
+        range("person", 0, 3, (x, p) -> x.must(p, 1));
+        range("place", 0, 2, (x, to) -> x.must(0, to));
         due("place 8 of 8", Checks.told("n8;p0 0;").must(0, 8), BAD);
         due("place 7 of 8", Checks.told("n8;p0 7;").must(0, 7), 0);
     }
@@ -274,11 +264,11 @@ final class WayBoundaries {
         for (int tenths = 0; tenths <= 10; tenths++) {
             oddsAre("by " + tenths, x, 1, tenths, upper[tenths], lower[tenths]);
         }
-        Boundary.range("x", 0, 10, (y, tenths) -> y.odds(0, 1, tenths, 1));
+        range("x", 0, 10, (y, tenths) -> y.odds(0, 1, tenths, 1));
     }
 
     private static void oddsWhereHeIs() {
-        sentence(17, "that he can GO there then (where he is)");
+        sentence(17, "that he can GO there then", "where he is");
         for (int tenths = 0; tenths <= 10; tenths++) {
             oddsAre("where he is by " + tenths, Checks.told("l0 1 4;p0 0;"), 0, tenths, 1, 1);
             oddsAre("without lanes by " + tenths, Checks.told("p0 1;"), 1, tenths, 1, 1);
@@ -286,7 +276,7 @@ final class WayBoundaries {
     }
 
     private static void oddsNotAtAll() {
-        sentence(17, "upper (what = 0), lower number (1), in least terms (0)");
+        sentence(17, "upper (what = 0), lower number (1), in least terms", "of nothing");
         oddsAre("no lane, none shut", Checks.told("n3;l0 1 4;p0 0;"), 2, 0, 0, 1);
         oddsAre("no lane", Checks.told("n3;l0 1 4;p0 0;"), 2, 5, 0, 1);
         oddsAre("an inch wider", Checks.told("l0 1 13;p5 0;"), 1, 0, 0, 1);
@@ -296,7 +286,7 @@ final class WayBoundaries {
     }
 
     private static void oddsOfOpenLanes() {
-        sentence(17, "each LANE that is open is shut .., for itself");
+        sentence(17, "each LANE that is open is shut ... for itself");
         ElbowRanks x = Checks.told("l0 1 4;l0 1 4;l0 1 3;p0 0;");
         oddsAre("two that are wide enough", x, 1, 5, 3, 4);
         x.shuts(0, 1);
@@ -318,7 +308,7 @@ final class WayBoundaries {
     }
 
     private static void oddsOfMost() {
-        sentence(17, "a fraction (of eight LANES)");
+        sentence(17, "a fraction", "of eight LANES");
         ElbowRanks beside = Checks.told(SIDE_BY_SIDE + "p0 0;");
         oddsAre("all but one in a hundred million", beside, 1, 1, 99999999, 100000000);
         // 9 to the eighth is 43046721.
@@ -330,10 +320,10 @@ final class WayBoundaries {
     }
 
     private static void oddsBad() {
-        sentence(17, "ODDS: upper (what = 0), lower number (1) .. BAD.");
-        Boundary.range("person", 0, 3, (x, p) -> x.odds(p, 1, 5, 0));
-        Boundary.range("place", 0, 2, (x, to) -> x.odds(0, to, 5, 0));
-        Boundary.range("what", 0, 1, (x, what) -> x.odds(0, 1, 5, what));
+        sentence(17, "ODDS: upper (what = 0), lower number (1) ... BAD.");
+        range("person", 0, 3, (x, p) -> x.odds(p, 1, 5, 0));
+        range("place", 0, 2, (x, to) -> x.odds(0, to, 5, 0));
+        range("what", 0, 1, (x, what) -> x.odds(0, 1, 5, what));
         due("place 8 of 8", Checks.told("n8;p0 0;").odds(0, 8, 5, 0), BAD);
         due("what 2, where he is", Checks.told("p0 0;").odds(0, 0, 5, 2), BAD);
         due("x 11, where he is", Checks.told("p0 0;").odds(0, 0, 11, 0), BAD);
@@ -341,13 +331,13 @@ final class WayBoundaries {
 
     private static void nothingIsChanged() {
         sentence(14, "Nothing is changed");
-        Boundary.refused("way", 1, x -> x.way(0, 1, -1));
-        Boundary.refused("the first of a way", 0, x -> x.way(0, 1, 0));
+        stays("way", 1, x -> x.way(0, 1, -1));
+        stays("the first of a way", 0, x -> x.way(0, 1, 0));
         sentence(15, "Nothing is changed");
-        Boundary.refused("lacks", 0, x -> x.lacks(0, 2));
+        stays("lacks", 0, x -> x.lacks(0, 2));
         sentence(16, "Nothing is changed");
-        Boundary.refused("must", 3, x -> x.must(0, 2));
+        stays("must", 3, x -> x.must(0, 2));
         sentence(17, "Nothing is changed");
-        Boundary.refused("odds", 4, x -> x.odds(0, 2, 5, 1));
+        stays("odds", 4, x -> x.odds(0, 2, 5, 1));
     }
 }
